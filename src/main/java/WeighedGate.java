@@ -850,7 +850,7 @@ public final class WeighedGate {
         /** The least that d may be off; -1: it is off by more than the slack. */
         int offOf(int d) {
             for (int off = 0; off <= settings[SLACK]; off++) {
-                if (makes(d - off) || makes(d + off)) {
+                if (fewestFor(d - off) != NONE || fewestFor(d + off) != NONE) {
                     return off;
                 }
             }

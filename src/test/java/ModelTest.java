@@ -32,6 +32,9 @@ final class ModelTest {
         int early = seed % 3 == 0 ? 60 : 25;
         while (calls < CALLS && due.allAsDue()) {
             int call = calls < early ? lot.nextInt(12) : lot.nextInt(100);
+            if (call == 3 && lot.nextInt(4) > 0) {
+                call = 5;
+            }
             if (call == 6 || call == 95) {
                 calls += feedText(calls);
             }
@@ -62,14 +65,15 @@ final class ModelTest {
         return some(0, Math.max(0, m.count(4) - (lot.nextInt(20) == 0 ? 0 : 1)));
     }
 
-    private int someSet() {
+    /** Carts as bits: mostly such as may be weighed at the hour, or nearly. */
+    private int someSet(int h) {
         int all = (1 << m.count(4)) - 1;
+        int best = m.best(h, 0);
+        if (best > 0 && lot.nextInt(3) > 0) {
+            return lot.nextInt(3) > 0 ? best : best ^ 1 << lot.nextInt(m.count(4));
+        }
         int set = some(0, all + 1);
         return lot.nextInt(4) == 0 ? set : set & some(0, all + 1) & all | (all > 0 ? 1 << lot.nextInt(m.count(4)) : 0);
-    }
-
-    private int text(int call) {
-        return lot.nextInt(call);
     }
 
     private String sum(int depth) {
@@ -127,7 +131,7 @@ final class ModelTest {
             text = "may " + sum(4) + ";\nfine " + sum(5) + " ; toll " + lot.nextInt(12) + ";";
         }
         if (lot.nextInt(3) == 0) {
-            int at = text(text.length());
+            int at = lot.nextInt(text.length());
             String[] odd = {"(", ")", "not ", "-", "or", "7", " ", "x", "~", "\n", "<", "stone", "in", ";", "12345", "="};
             int cut = lot.nextInt(3);
             text = text.substring(0, at) + odd[lot.nextInt(odd.length)]
@@ -285,7 +289,7 @@ final class ModelTest {
             case 3:
             case 4:
             case 5:
-                a = someSet();
+                a = someSet(h);
                 b = some(0, 5);
                 same("scales", m.scales(a, h, b), x.scales(a, h, b), a, h, b);
                 break;
@@ -353,13 +357,13 @@ final class ModelTest {
         int[] q;
         switch (call % 8) {
             case 0:
-                int sort = lot.nextInt(6) == 0 ? some(-1, 2) : 2;
+                int sort = lot.nextInt(8) == 0 ? some(-1, 2) : 2;
                 int n = some(0, lot.nextBoolean() ? 40 : 12);
                 same("sheet", m.sheet(s, sort, n), x.sheet(s, sort, n), s, sort, n);
                 break;
             case 1:
             case 2:
-                q = new int[] {s, some(0, 20), lot.nextInt(3) == 0 ? lot.nextInt() : some(0, 9)};
+                q = new int[] {s, some(0, 20), lot.nextInt(6) == 0 ? lot.nextInt() : some(0, 5)};
                 same("cell", m.cell(q[0], q[1], q[2]), x.cell(q[0], q[1], q[2]), q);
                 break;
             case 3:
@@ -367,7 +371,11 @@ final class ModelTest {
                 same("copy", m.copy(q[0], q[1], q[2], q[3], q[4]), x.copy(q[0], q[1], q[2], q[3], q[4]), q);
                 break;
             case 4:
-                q = new int[] {s, lot.nextInt(5) == 0 ? some(0, 2) : 2, some(0, 12), some(0, 3)};
+                q = new int[] {s, lot.nextInt(5) == 0 ? some(0, 2) : 2, some(0, 6), some(0, 3)};
+                if (lot.nextInt(3) == 0) {
+                    same("back", m.back(), x.back());
+                    tellCart(q[0], q[2]);
+                }
                 same("cartsBy", m.cartsBy(q[0], q[1], q[2], q[3]), x.cartsBy(q[0], q[1], q[2], q[3]), q);
                 break;
             case 5:
@@ -382,14 +390,18 @@ final class ModelTest {
         }
     }
 
+    private void tellCart(int s, int at) {
+        int[] five = {some(0, 1), some(0, 5), some(1, 12), some(0, 99), some(0, 9)};
+        for (int i = 0; i < 5; i++) {
+            same("cell", m.cell(s, at + i, five[i]), x.cell(s, at + i, five[i]), s, at + i, five[i]);
+        }
+    }
+
     /** Tells a row of a weighing, mostly one that may be. */
     private void tellRow(int s) {
         int i = 2 * lot.nextInt(4);
         int h = some(0, 9);
-        int set = m.best(h, 0);
-        if (set <= 0 || lot.nextInt(5) == 0) {
-            set = someSet();
-        }
+        int set = someSet(h);
         same("cell", m.cell(s, i, h), x.cell(s, i, h), s, i, h);
         same("cell", m.cell(s, i + 1, set), x.cell(s, i + 1, set), s, i + 1, set);
     }
