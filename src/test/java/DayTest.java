@@ -91,6 +91,12 @@ final class DayTest {
         x.set(2, 0, 3);
         x.set(3, 0, 0);
         told(x, 2, 0, 0, 0, 0, 2);
+        WeighedGate y = fourAlike();
+        y.set(2, 0, 3);
+        y.set(3, 0, 7);
+        y.set(1, 0, 6);
+        told(y, 4, 11, 5, 0, 3, 0);
+        told(y, 9, 22, 15, 0, 3, 0);
         told(x, 3, 11, 1 | 8, 0, 2, 0);
         told(x, 5, 11, 1 | 8, 0, 2, 2);
         told(x, 6, 22, 15, 0, 2, 0);

@@ -178,6 +178,11 @@ final class LotTest {
         due.is("back to the same", 1, x.back());
         due.is("comes", 0, x.cartTold(0, 0));
         due.is("not inward", 0, x.cartTold(0, 1));
+        x.set(0, 1, 1);
+        x.image();
+        x.set(0, 1, 0);
+        x.back();
+        due.is("inward", 1, x.cartTold(0, 1));
         x.set(0, 0, 7);
         x.cart(0, 0, 1, 1, 1);
         due.is("a later one", 2, x.image());

@@ -79,6 +79,12 @@ final class MakingTest {
         due.is("99", 99, with(1, 3, 9, 27).own(99, 1));
         due.is("a heavy one", 98, with(4, 81, 69, 80).own(34, 0));
         due.is("28 of 34", 28, with(4, 81, 69, 80).own(34, 1));
+        due.is("the heaviest", 99, with(1, 80, 96, 92).own(22, 0));
+        due.is("21 of 22", 21, with(1, 80, 96, 92).own(22, 1));
+        due.is("100 would be better, but is none", 12, with(88, 73, 82, 87).own(29, 0));
+        due.is("22 of 29", 22, with(88, 73, 82, 87).own(29, 1));
+        due.is("1, and 9 as what is left of 10", 2, with(10).own(9, 1));
+        due.is("1, and 9 as what is left of 10", 1, with(10).own(9, 0));
         WeighedGate x = with(1, 3, 9, 27);
         due.is("four stones stay", 4, x.count(3));
         due.is("n below", WeighedGate.BAD, x.own(-1, 0));
@@ -102,6 +108,8 @@ final class MakingTest {
         due.is("below", WeighedGate.BAD, x.falsely(-1));
         due.is("above", WeighedGate.BAD, x.falsely(1000));
         due.is("by none of none", 0, with().falsely(1));
+        due.is("by the second one alone", 2, with(20, 5).falsely(6));
+        due.is("by the third one alone", 4, with(40, 20, 5).falsely(6));
         due.is("a stone of 100", 1, with(99).falsely(100));
         due.is("either of 99 and 1", 3, with(99, 1).falsely(101));
         due.is("any of five", 31, with(99, 99, 99, 99, 99).falsely(496));

@@ -41,7 +41,10 @@ final class ScaleTest {
         due.is("arm in was", 1, x.scale(0, 3));
         due.is("arm in was", 3, x.scale(0, 2));
         due.is("arm out was", 1, x.scale(1, 2));
-        due.is("arm out was", 2, x.scale(1, 3));
+        due.is("arm out was", 2, x.scale(1, 1));
+        due.is("arm out was", 1, x.scale(1, 3));
+        due.is("arm in was", 2, x.scale(0, 1));
+        due.is("arm in was", 1, x.scale(0, 2));
         due.is("slack was", 0, x.scale(2, 9));
         due.is("slack was", 9, x.scale(2, 0));
         due.is("slack was", 0, x.scale(2, 4));

@@ -7,6 +7,7 @@ final class TextTest {
         test.feed();
         test.fed();
         test.text();
+        test.textBehindFaults();
         test.faults();
         test.nesting();
         test.force();
@@ -77,6 +78,21 @@ final class TextTest {
         due.is("its toll", 71, y.asks(2, 0, 0, 0));
     }
 
+    /** What a fault left open or half read is nothing to the next text. */
+    private void textBehindFaults() {
+        WeighedGate x = new WeighedGate();
+        for (int k = 0; k < 3; k++) {
+            due.is("a fault late", -258, Due.read(x, "may 1" + "+1".repeat(76) + "+;"));
+            due.is("a fault five deep", -109, Due.read(x, "may (((((;"));
+            due.is("a fault too deep", -109, Due.read(x, "may ((((((1"));
+        }
+        due.is("good behind them", 1, Due.read(x, "may (((((1)))));fine 7" + "+1".repeat(40) + ";toll -----0-(-8);"));
+        x.force(1);
+        due.is("may", 1, x.asks(0, 0, 0, 0));
+        due.is("fine", 47, x.asks(1, 0, 0, 0));
+        due.is("toll", 8, x.asks(2, 0, 0, 0));
+    }
+
     private void fault(int place, String text) {
         WeighedGate x = new WeighedGate();
         due.is("fault of " + text, -100 - place, Due.read(x, text));
@@ -112,6 +128,15 @@ final class TextTest {
         fault(9, "may 1234 5;fine 0;toll 0;");
         fault(5, "may 1in;fine 0;toll 0;");
         fault(7, "may in out;fine 0;toll 0;");
+        fault(0, "xay 1;fine 0;toll 0;");
+        fault(6, "may 1;xine 0;toll 0;");
+        fault(13, "may 1;fine 0;xoll 0;");
+        for (String word : new String[] {"xn", "xut", "xff", "xour", "xany", "xtones", "inn", "ou", "ofx", "hous", "z"}) {
+            fault(4, "may " + word + ";fine 0;toll 0;");
+        }
+        fault(6, "may 1 xr 1;fine 0;toll 0;");
+        fault(6, "may 1 xnd 1;fine 0;toll 0;");
+        fault(4, "may xot 1;fine 0;toll 0;");
         fault(4, "may ins;fine 0;toll 0;");
         fault(4, "may stone;fine 0;toll 0;");
         fault(8, "may in<1<2;fine 0;toll 0;");
@@ -199,6 +224,17 @@ final class TextTest {
             due.is("toll of " + names[n], 99 - values[n], y.asks(2, 12034, 56, 78));
             due.is("may of " + names[n], 0, y.asks(0, 13035, 67, 89));
         }
+        WeighedGate tens = new WeighedGate();
+        Due.read(tens, "may off = 3 and many = 2;fine off*10+hour;toll many*10+stones;");
+        tens.force(1);
+        for (int off = 0; off < 10; off++) {
+            for (int hour = 0; hour < 10; hour++) {
+                int two = 10 * off + hour;
+                due.is("off, hour of " + two, two, tens.asks(1, 0, two, 0));
+                due.is("many, stones of " + two, two, tens.asks(2, 0, 0, two));
+            }
+        }
+        due.is("31 and 21", 1, tens.asks(0, 0, 31, 21));
         WeighedGate z = new WeighedGate();
         Due.read(z, "may in = 999 and out = 0;fine out - 950;toll in - 950;");
         z.force(1);

@@ -7,6 +7,7 @@ final class WeighingTest {
         WeighingTest test = new WeighingTest();
         test.scales();
         test.pans();
+        test.turned();
         test.off();
         test.fewerStones();
         test.arms();
@@ -69,6 +70,11 @@ final class WeighingTest {
         told(x, 0b0000011, 0, 0, 4, 0, -1, 0, 0);
         told(x, 0b0001000, 0, 0, 0, 2, -1, 0, 0);
         told(x, 0b1111111, 0, 0, 6, 14, -1, 0, 0);
+        x.stone(2);
+        told(x, 0b0000001, 0, 0, 2, 0, 0, 1, 0);
+        told(x, 0b0001000, 0, 0, 0, 2, 0, 1, 0);
+        due.is("no pan may be empty", 0b1010110, x.best(0, 0));
+        x.sell();
         x.set(3, 0, 1);
         told(x, 0b0001001, 0, 0, 2, 2, 0, 0, 0);
         told(x, 0b0001001, 1, 1, 2, 2, 0, 0, 9);
@@ -80,6 +86,22 @@ final class WeighingTest {
         told(y, 15, 0, 0, 6, 6, 0, 0, 0);
         y.scale(2, 2);
         told(y, 7, 0, 1, 6, 4, 2, 0, 3);
+    }
+
+    private void turned() {
+        WeighedGate x = under(FREE);
+        x.cart(1, 4, 5, 9, 0);
+        x.cart(1, 0, 5, 7, 0);
+        told(x, 3, 0, 0, 10, 0, -1, 0, 0);
+        x.set(0, 1, 0);
+        told(x, 3, 0, 1, 5, 5, 0, 0, 16);
+        due.is("one pair", 1, x.pairs(0, 0));
+        due.is("turned", 1, x.against(0, 0));
+        due.is("best", 3, x.best(0, 0));
+        x.set(0, 1, 1);
+        due.is("turned back: none", -1, x.against(0, 0));
+        due.is("turned back: none", 0, x.pairs(0, 0));
+        due.is("turned back: none", 0, x.best(0, 0));
     }
 
     private void off() {
@@ -173,6 +195,7 @@ final class WeighingTest {
         due.is("others", 1, x.against(0, 2));
         due.is("others", 0, x.against(0, 3));
         x.set(1, 0, 5);
+        due.is("one has not come", -1, x.against(4, 1));
         due.is("one has not come", 1, x.pairs(4, 0));
         due.is("one has not come", 40, x.pairs(4, 1));
         due.is("others", 2, x.against(4, 0));
@@ -212,6 +235,15 @@ final class WeighingTest {
         due.is("the third is left", 2, x.against(0, 0));
         due.is("the third is left", 3, x.against(0, 1));
         due.is("the third is left", -1, x.against(0, 4));
+        WeighedGate z = under(FREE);
+        z.scale(2, 1);
+        z.cart(1, 0, 6, 10, 0);
+        z.cart(1, 0, 5, 20, 0);
+        z.cart(0, 0, 5, 0, 0);
+        z.cart(0, 0, 7, 0, 0);
+        due.is("the second has but one", 30, z.pairs(0, 1));
+        due.is("so the first takes the other", 3, z.against(0, 0));
+        due.is("the second has but one", 2, z.against(0, 1));
         WeighedGate y = under(FREE);
         for (int c = 0; c < 10; c++) {
             y.cart(c % 2, 0, 5, 10, 0);
