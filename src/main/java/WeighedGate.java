@@ -26,7 +26,12 @@ public final class WeighedGate {
 
     private static final int MISSING = -1;
     private static final int SORT_INTS = 2;
+    private static final int KIND_CART = 0;
+    private static final int KIND_SPOILING = 1;
+    private static final int KIND_DRINKING = 2;
+    private static final int KIND_RUSHED = 3;
     private static final int KIND_PERSON = 4;
+    private static final int KIND_MELTING = 5;
     private static final int TAKEN_FOR_A_STONE = 6;
 
     private static final int ARM_IN = 0;
@@ -221,7 +226,7 @@ public final class WeighedGate {
     // ---- carts
 
     public int cart(int inward, int kind, int weight, int value, int more) {
-        boolean fits = within(inward, 0, 1) && within(kind, 0, 5) && within(weight, 1, 99)
+        boolean fits = within(inward, 0, 1) && within(kind, KIND_CART, KIND_MELTING) && within(weight, 1, 99)
             && within(value, 0, 99) && within(more, 0, 9);
         if (!fits) {
             return BAD;
@@ -340,18 +345,7 @@ public final class WeighedGate {
     }
 
     public int falsely(int d) {
-        if (!isDifference(d)) {
-            return BAD;
-        }
-        int heavier = 0;
-        if (!beam.makes(d)) {
-            for (int k = 0; k < beam.stoneCount; k++) {
-                if (beam.reaches(d, 0, k)) {
-                    heavier |= 1 << k;
-                }
-            }
-        }
-        return heavier;
+        return isDifference(d) ? beam.heavierFor(d) : BAD;
     }
 
     // ---- a weighing
@@ -389,7 +383,7 @@ public final class WeighedGate {
             return NOT_ASKED_SO;
         }
         pairing.prepare(h, law());
-        return pairing.most(0, 0, what == 1);
+        return what == 0 ? pairing.mostPairs() : pairing.mostBrought();
     }
 
     public int against(int h, int c) {
@@ -836,8 +830,21 @@ public final class WeighedGate {
             return made;
         }
 
+        /** The stones, as bits, by each of which, were it 1 heavier, d could be made; 0: it can. */
+        int heavierFor(int d) {
+            int heavier = 0;
+            if (!makes(d)) {
+                for (int k = 0; k < stoneCount; k++) {
+                    if (reaches(d, 0, k)) {
+                        heavier |= 1 << k;
+                    }
+                }
+            }
+            return heavier;
+        }
+
         /** Whether the stones from k on can make a sum, with one of them 1 heavier. */
-        boolean reaches(int sum, int k, int heavier) {
+        private boolean reaches(int sum, int k, int heavier) {
             if (k >= stoneCount || k >= MAX_STONES) {
                 return sum == 0;
             }
@@ -878,9 +885,10 @@ public final class WeighedGate {
 
         int weighs(int waited) {
             switch (kind) {
-                case 2:
+                case KIND_DRINKING:
                     return weight + more * waited;
-                case 5:
+                case KIND_MELTING:
+                    // Twice the weight less what a drinking one would weigh.
                     return Math.max(1, weight - more * waited);
                 default:
                     return weight;
@@ -889,9 +897,9 @@ public final class WeighedGate {
 
         int worth(int waited) {
             switch (kind) {
-                case 1:
+                case KIND_SPOILING:
                     return spoiled(waited);
-                case 3:
+                case KIND_RUSHED:
                     return waited > 3 ? 0 : 2 * spoiled(waited);
                 case KIND_PERSON:
                     return Math.max(0, value - more);
@@ -909,7 +917,9 @@ public final class WeighedGate {
         }
 
         boolean isA(int other) {
-            return other == kind || other == 0 || other == 1 && kind == 3 || other == 2 && kind == 5;
+            return other == kind || other == KIND_CART
+                || other == KIND_SPOILING && kind == KIND_RUSHED
+                || other == KIND_DRINKING && kind == KIND_MELTING;
         }
     }
 
@@ -1009,6 +1019,7 @@ public final class WeighedGate {
         private static final int LEVEL_AND = 1;
         private static final int LEVEL_COMPARED = 2;
         private static final int LEVEL_SUM = 3;
+        private static final int LEVEL_TERM = 4;
         private static final int LEVEL_ONE = 5;
 
         final int[] tape = new int[MAX_TAPE];
@@ -1094,8 +1105,10 @@ public final class WeighedGate {
                     return sign == TOKEN_LESS || sign == TOKEN_SAME;
                 case LEVEL_SUM:
                     return sign == TOKEN_PLUS || sign == TOKEN_MINUS;
-                default:
+                case LEVEL_TERM:
                     return sign == TOKEN_TIMES;
+                default:
+                    return false;
             }
         }
 
@@ -1399,13 +1412,21 @@ public final class WeighedGate {
             return (used >> other & 1) == 0 && pays[MAX_CARTS * c + other] != NO_PAIR;
         }
 
+        int mostPairs() {
+            return most(0, 0, false);
+        }
+
+        int mostBrought() {
+            return most(0, 0, true);
+        }
+
         /** The most that carts inward from c on, against others not used, bring (or how many they are). */
-        int most(int c, int used, boolean paid) {
+        private int most(int c, int used, boolean paid) {
             if (c >= yard.size || c >= MAX_CARTS) {
                 return 0;
             }
             int most = most(c + 1, used, paid);
-            for (int other = 0; other < yard.size; other++) {
+            for (int other = 0; weighing.isInward(c) && other < yard.size; other++) {
                 if (fits(c, other, used)) {
                     int pay = paid ? pays[MAX_CARTS * c + other] : 1;
                     most = Math.max(most, pay + most(c + 1, used | 1 << other, paid));
@@ -1421,7 +1442,7 @@ public final class WeighedGate {
             }
             int used = 0;
             for (int c = 0; c < yard.size; c++) {
-                int other = firstOther(c, used);
+                int other = weighing.isInward(c) ? firstOther(c, used) : NONE;
                 if (other != NONE) {
                     others[c] = other;
                     others[other] = c;
