@@ -1517,7 +1517,7 @@ public final class WeighedGate {
 
         private void noteBest(int h) {
             int set = weighing.bestSet;
-            if (set == 0) {
+            if (set == 0 || rows >= HOURS) {
                 return;
             }
             weighing.weigh(set);

@@ -91,6 +91,12 @@ final class TextTest {
         due.is("may", 1, x.asks(0, 0, 0, 0));
         due.is("fine", 47, x.asks(1, 0, 0, 0));
         due.is("toll", 8, x.asks(2, 0, 0, 0));
+        due.is("letters", -100, Due.read(x, "z".repeat(160)));
+        due.is("a word at the end", -106, Due.read(x, "may in"));
+        due.is("digits", -100, Due.read(x, "9".repeat(160)));
+        due.is("a number at the end", -107, Due.read(x, "may 123"));
+        due.is("signs", -100, Due.read(x, ";".repeat(160)));
+        due.is("a blank at the end", -106, Due.read(x, "may 1 "));
     }
 
     private void fault(int place, String text) {
