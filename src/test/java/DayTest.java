@@ -1,6 +1,5 @@
 /** Promises 23 to 27: the day, who goes when, an hour to hold, what a cart is worth, when to bring it. */
 final class DayTest {
-    private static final String FREE = "may 1;fine 0;toll 0;";
     private static final String ONE_EACH = "may many = 2;fine 0;toll 0;";
     private final Due due = new Due();
 
@@ -19,13 +18,6 @@ final class DayTest {
         test.due.end();
     }
 
-    private static WeighedGate under(String law) {
-        WeighedGate x = new WeighedGate();
-        Due.read(x, law);
-        x.force(1);
-        return x;
-    }
-
     private void told(WeighedGate x, int n, int... answers) {
         for (int what = 0; what < 5; what++) {
             due.is("dusk(" + n + ", " + what + ")", answers[what], x.dusk(n, what));
@@ -34,7 +26,7 @@ final class DayTest {
 
     /** Two inward ones and two others, all alike but for when they come. */
     private static WeighedGate fourAlike() {
-        WeighedGate x = under(ONE_EACH);
+        WeighedGate x = Gates.under(ONE_EACH);
         x.cart(1, 0, 5, 10, 0);
         x.cart(1, 0, 5, 10, 0);
         x.cart(0, 0, 5, 1, 0);
@@ -68,7 +60,7 @@ final class DayTest {
     }
 
     private void moreInThanOut() {
-        WeighedGate x = under(ONE_EACH);
+        WeighedGate x = Gates.under(ONE_EACH);
         x.scale(2, 9);
         x.cart(1, 0, 5, 10, 0);
         x.cart(0, 2, 5, 10, 3);
@@ -128,7 +120,7 @@ final class DayTest {
 
     /** The first one goes against a poor other one, though a rich one comes later. */
     private static WeighedGate greedy() {
-        WeighedGate x = under(FREE);
+        WeighedGate x = Gates.free();
         x.cart(1, 0, 5, 10, 0);
         x.cart(0, 0, 5, 0, 0);
         x.cart(0, 0, 5, 40, 0);
@@ -156,12 +148,12 @@ final class DayTest {
     }
 
     private void holdOfLikeOnes() {
-        WeighedGate x = under("may hour = 2 or hour = 3 or hour = 9;fine 0;toll 0;");
+        WeighedGate x = Gates.under("may hour = 2 or hour = 3 or hour = 9;fine 0;toll 0;");
         x.cart(1, 0, 5, 10, 0);
         x.cart(0, 0, 5, 10, 0);
         due.is("none is better", -1, x.hold(0));
         due.is("none is better", 20, x.hold(1));
-        WeighedGate y = under("may many = 2;fine 0;toll 0;");
+        WeighedGate y = Gates.under("may many = 2;fine 0;toll 0;");
         y.cart(1, 0, 5, 1, 0);
         y.cart(1, 0, 5, 10, 0);
         y.cart(0, 0, 5, 10, 0);
@@ -171,7 +163,7 @@ final class DayTest {
         y.set(4, 0, 0);
         due.is("earned", 20 + 91, y.dusk(10, 0));
         due.is("as much as can be", -1, y.hold(0));
-        WeighedGate z = under(FREE);
+        WeighedGate z = Gates.free();
         z.cart(1, 0, 5, 10, 0);
         z.cart(0, 0, 5, 0, 0);
         z.cart(0, 0, 5, 40, 0);
@@ -217,7 +209,7 @@ final class DayTest {
         due.is("16 at hour 4", 16, y.bring(1, 1));
         due.is("by the toll", 0, y.bring(0, 0));
         due.is("20 at hour 0", 20, y.bring(0, 1));
-        WeighedGate z = under(FREE);
+        WeighedGate z = Gates.free();
         z.cart(1, 0, 5, 10, 0);
         due.is("all alike", 9, z.bring(0, 0));
         due.is("all alike", 0, z.bring(0, 1));

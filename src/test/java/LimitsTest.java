@@ -108,27 +108,11 @@ final class LimitsTest {
         due.is("nothing but blanks", -260, Due.read(x, " ".repeat(160)));
     }
 
-    /** All that can be asked of a state, as one text. */
-    private static String asked(WeighedGate x) {
-        StringBuilder all = new StringBuilder();
-        for (int k = -1; k < 11; k++) {
-            all.append(x.count(k)).append(' ').append(x.stoneTold(k)).append(' ').append(x.make(k * k)).append(' ');
-            for (int what = 0; what < 6; what++) {
-                all.append(x.cartTold(k, what)).append(' ').append(x.dusk(k, what)).append(' ');
-            }
-            all.append(x.goes(k, 1)).append(' ').append(x.asks(1, 3, 4 * k, 5)).append(' ');
-        }
-        for (int s = 0; s < 4; s++) {
-            all.append(x.judge(s)).append(' ').append(x.laws(s)).append(' ');
-        }
-        return all.toString();
-    }
-
     private void refusalsChangeNothing() {
         WeighedGate x = inState(2);
         Due.tell(x, 0, 0, 3, 1, 12);
         x.feed(3, 'm', 'a', 'y', 0, 0);
-        String was = asked(x);
+        String was = Gates.told(x);
         x.scale(0, 4);
         x.scale(3, 1);
         x.stone(3);
@@ -149,7 +133,7 @@ final class LimitsTest {
         x.copy(0, 0, 2, 0, -1);
         x.cartsBy(0, 2, 0, 1);
         x.film(4);
-        due.holds("refusals change nothing", was.equals(asked(x)));
+        due.holds("refusals change nothing", was.equals(Gates.told(x)));
         for (int what = 0; what < 5; what++) {
             x.hold(what);
             x.bring(what, 0);
@@ -167,6 +151,6 @@ final class LimitsTest {
             x.at(what, 9, 0);
             x.taken(what, 6);
         }
-        due.holds("what is asked changes nothing", was.equals(asked(x)));
+        due.holds("what is asked changes nothing", was.equals(Gates.told(x)));
     }
 }

@@ -11,16 +11,8 @@ final class MakingTest {
         test.due.end();
     }
 
-    private static WeighedGate with(int... weights) {
-        WeighedGate x = new WeighedGate();
-        for (int w : weights) {
-            x.stone(w);
-        }
-        return x;
-    }
-
     private void make() {
-        WeighedGate x = with(1, 3, 9);
+        WeighedGate x = Gates.withStones(1, 3, 9);
         int[] fewest = {0, 1, 2, 1, 2, 3, 2, 3, 2, 1, 2, 3, 2, 3, -1};
         for (int d = 0; d < fewest.length; d++) {
             due.is("make " + d, fewest[d], x.make(d));
@@ -28,22 +20,22 @@ final class MakingTest {
         due.is("the greatest", -1, x.make(999));
         due.is("below", WeighedGate.BAD, x.make(-1));
         due.is("above", WeighedGate.BAD, x.make(1000));
-        WeighedGate two = with(5, 5);
+        WeighedGate two = Gates.withStones(5, 5);
         due.is("none for 0", 0, two.make(0));
         due.is("one of like ones", 1, two.make(5));
         due.is("both", 2, two.make(10));
-        due.is("none by none", -1, with().make(1));
-        due.is("0 by none", 0, with().make(0));
-        WeighedGate five = with(99, 99, 99, 99, 99);
+        due.is("none by none", -1, Gates.withStones().make(1));
+        due.is("0 by none", 0, Gates.withStones().make(0));
+        WeighedGate five = Gates.withStones(99, 99, 99, 99, 99);
         due.is("all in one pan", 5, five.make(495));
         due.is("three in one pan", 3, five.make(297));
         due.is("nearly", -1, five.make(494));
-        due.is("the fewer ones", 1, with(2, 3, 5).make(5));
-        due.is("two of three", 2, with(2, 3, 9).make(5));
+        due.is("the fewer ones", 1, Gates.withStones(2, 3, 5).make(5));
+        due.is("two of three", 2, Gates.withStones(2, 3, 9).make(5));
     }
 
     private void makings() {
-        WeighedGate x = with(1, 3, 9);
+        WeighedGate x = Gates.withStones(1, 3, 9);
         due.is("all", 13, x.makings(13, 0));
         due.is("all", -1, x.makings(13, 1));
         due.is("all but one", 13, x.makings(14, 0));
@@ -51,11 +43,11 @@ final class MakingTest {
         due.is("all of 999", 13, x.makings(999, 0));
         due.is("of none", 0, x.makings(0, 0));
         due.is("of none", -1, x.makings(0, 1));
-        WeighedGate y = with(1, 5);
+        WeighedGate y = Gates.withStones(1, 5);
         due.is("1, 4, 5, 6", 4, y.makings(999, 0));
         due.is("1, 4", 2, y.makings(4, 0));
         due.is("not 2", 2, y.makings(4, 1));
-        due.is("not 1", 1, with().makings(1, 1));
+        due.is("not 1", 1, Gates.withStones().makings(1, 1));
         due.is("n below", WeighedGate.BAD, x.makings(-1, 0));
         due.is("n above", WeighedGate.BAD, x.makings(1000, 0));
         due.is("what below", WeighedGate.BAD, x.makings(1, -1));
@@ -63,29 +55,29 @@ final class MakingTest {
     }
 
     private void own() {
-        due.is("3 beside 1", 3, with(1).own(4, 0));
-        due.is("all four", 4, with(1).own(4, 1));
-        due.is("3 beside 1, the least", 3, with(1).own(99, 0));
-        due.is("no more than four", 4, with(1).own(99, 1));
-        due.is("9 beside 1, 3", 9, with(1, 3).own(99, 0));
-        due.is("thirteen", 13, with(1, 3).own(99, 1));
-        due.is("the first beside none", 1, with().own(10, 0));
-        due.is("one", 1, with().own(10, 1));
-        due.is("of none", 1, with(4).own(0, 0));
-        due.is("of none", 0, with(4).own(0, 1));
-        due.is("of 1 the least", 1, with(5).own(1, 0));
-        due.is("4 or 6 would do as well", 1, with(5).own(1, 1));
-        due.is("the fifth one, 19 to 99 beside 1 to 40", 59, with(1, 3, 9, 27).own(99, 0));
-        due.is("99", 99, with(1, 3, 9, 27).own(99, 1));
-        due.is("a heavy one", 98, with(4, 81, 69, 80).own(34, 0));
-        due.is("28 of 34", 28, with(4, 81, 69, 80).own(34, 1));
-        due.is("the heaviest", 99, with(1, 80, 96, 92).own(22, 0));
-        due.is("21 of 22", 21, with(1, 80, 96, 92).own(22, 1));
-        due.is("100 would be better, but is none", 12, with(88, 73, 82, 87).own(29, 0));
-        due.is("22 of 29", 22, with(88, 73, 82, 87).own(29, 1));
-        due.is("1, and 9 as what is left of 10", 2, with(10).own(9, 1));
-        due.is("1, and 9 as what is left of 10", 1, with(10).own(9, 0));
-        WeighedGate x = with(1, 3, 9, 27);
+        due.is("3 beside 1", 3, Gates.withStones(1).own(4, 0));
+        due.is("all four", 4, Gates.withStones(1).own(4, 1));
+        due.is("3 beside 1, the least", 3, Gates.withStones(1).own(99, 0));
+        due.is("no more than four", 4, Gates.withStones(1).own(99, 1));
+        due.is("9 beside 1, 3", 9, Gates.withStones(1, 3).own(99, 0));
+        due.is("thirteen", 13, Gates.withStones(1, 3).own(99, 1));
+        due.is("the first beside none", 1, Gates.withStones().own(10, 0));
+        due.is("one", 1, Gates.withStones().own(10, 1));
+        due.is("of none", 1, Gates.withStones(4).own(0, 0));
+        due.is("of none", 0, Gates.withStones(4).own(0, 1));
+        due.is("of 1 the least", 1, Gates.withStones(5).own(1, 0));
+        due.is("4 or 6 would do as well", 1, Gates.withStones(5).own(1, 1));
+        due.is("the fifth one, 19 to 99 beside 1 to 40", 59, Gates.withStones(1, 3, 9, 27).own(99, 0));
+        due.is("99", 99, Gates.withStones(1, 3, 9, 27).own(99, 1));
+        due.is("a heavy one", 98, Gates.withStones(4, 81, 69, 80).own(34, 0));
+        due.is("28 of 34", 28, Gates.withStones(4, 81, 69, 80).own(34, 1));
+        due.is("the heaviest", 99, Gates.withStones(1, 80, 96, 92).own(22, 0));
+        due.is("21 of 22", 21, Gates.withStones(1, 80, 96, 92).own(22, 1));
+        due.is("100 would be better, but is none", 12, Gates.withStones(88, 73, 82, 87).own(29, 0));
+        due.is("22 of 29", 22, Gates.withStones(88, 73, 82, 87).own(29, 1));
+        due.is("1, and 9 as what is left of 10", 2, Gates.withStones(10).own(9, 1));
+        due.is("1, and 9 as what is left of 10", 1, Gates.withStones(10).own(9, 0));
+        WeighedGate x = Gates.withStones(1, 3, 9, 27);
         due.is("four stones stay", 4, x.count(3));
         due.is("n below", WeighedGate.BAD, x.own(-1, 0));
         due.is("n above", WeighedGate.BAD, x.own(100, 0));
@@ -98,7 +90,7 @@ final class MakingTest {
     }
 
     private void falsely() {
-        WeighedGate x = with(1, 5);
+        WeighedGate x = Gates.withStones(1, 5);
         due.is("it can be made", 0, x.falsely(5));
         due.is("0 can be made", 0, x.falsely(0));
         due.is("by a heavier first one", 1, x.falsely(3));
@@ -107,14 +99,14 @@ final class MakingTest {
         due.is("by none", 0, x.falsely(8));
         due.is("below", WeighedGate.BAD, x.falsely(-1));
         due.is("above", WeighedGate.BAD, x.falsely(1000));
-        due.is("by none of none", 0, with().falsely(1));
-        due.is("by the second one alone", 2, with(20, 5).falsely(6));
-        due.is("by the third one alone", 4, with(40, 20, 5).falsely(6));
-        due.is("a stone of 100", 1, with(99).falsely(100));
-        due.is("either of 99 and 1", 3, with(99, 1).falsely(101));
-        due.is("any of five", 31, with(99, 99, 99, 99, 99).falsely(496));
-        due.is("1 between like ones", 3, with(7, 7).falsely(1));
-        due.is("no two at once", 0, with(7, 7).falsely(16));
+        due.is("by none of none", 0, Gates.withStones().falsely(1));
+        due.is("by the second one alone", 2, Gates.withStones(20, 5).falsely(6));
+        due.is("by the third one alone", 4, Gates.withStones(40, 20, 5).falsely(6));
+        due.is("a stone of 100", 1, Gates.withStones(99).falsely(100));
+        due.is("either of 99 and 1", 3, Gates.withStones(99, 1).falsely(101));
+        due.is("any of five", 31, Gates.withStones(99, 99, 99, 99, 99).falsely(496));
+        due.is("1 between like ones", 3, Gates.withStones(7, 7).falsely(1));
+        due.is("no two at once", 0, Gates.withStones(7, 7).falsely(16));
         due.is("nothing is heavier then", -1, x.make(7));
         due.is("the stones stay", 5, x.stoneTold(1));
     }

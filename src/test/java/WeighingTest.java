@@ -1,6 +1,5 @@
 /** Promises 19 to 22: weighings, one against one, the best. */
 final class WeighingTest {
-    private static final String FREE = "may 1;fine 0;toll 0;";
     private final Due due = new Due();
 
     public static void main(String[] args) {
@@ -18,13 +17,6 @@ final class WeighingTest {
         test.best();
         test.bestOfLikeOnes();
         test.due.end();
-    }
-
-    private static WeighedGate under(String law) {
-        WeighedGate x = new WeighedGate();
-        Due.read(x, law);
-        x.force(1);
-        return x;
     }
 
     private void told(WeighedGate x, int set, int h, int... answers) {
@@ -58,7 +50,7 @@ final class WeighingTest {
     }
 
     private void pans() {
-        WeighedGate x = under(FREE);
+        WeighedGate x = Gates.free();
         int[] weights = {2, 2, 2, 2, 2, 6, 4};
         for (int c = 0; c < 7; c++) {
             x.cart(c < 3 ? 1 : 0, 0, weights[c], 1 << c, 0);
@@ -78,7 +70,7 @@ final class WeighingTest {
         x.set(3, 0, 1);
         told(x, 0b0001001, 0, 0, 2, 2, 0, 0, 0);
         told(x, 0b0001001, 1, 1, 2, 2, 0, 0, 9);
-        WeighedGate y = under(FREE);
+        WeighedGate y = Gates.free();
         y.cart(1, 0, 6, 1, 0);
         for (int c = 1; c < 4; c++) {
             y.cart(0, 0, 2, 1, 0);
@@ -89,7 +81,7 @@ final class WeighingTest {
     }
 
     private void turned() {
-        WeighedGate x = under(FREE);
+        WeighedGate x = Gates.free();
         x.cart(1, 4, 5, 9, 0);
         x.cart(1, 0, 5, 7, 0);
         told(x, 3, 0, 0, 10, 0, -1, 0, 0);
@@ -165,7 +157,7 @@ final class WeighingTest {
     }
 
     private void byTheLaw() {
-        WeighedGate x = under("may out < 5 and many = 2;fine in;toll stones*10+hour;");
+        WeighedGate x = Gates.under("may out < 5 and many = 2;fine in;toll stones*10+hour;");
         x.cart(1, 2, 3, 40, 1);
         x.cart(0, 0, 4, 5, 0);
         x.cart(0, 0, 5, 5, 0);
@@ -175,14 +167,14 @@ final class WeighingTest {
         told(x, 3, 2, 1, 5, 4, 0, 1, 45 - 5 - 12);
         told(x, 5, 2, 0, 5, 5, 0, 0, 0);
         told(x, 7, 6, 0, 9, 9, 0, 0, 0);
-        WeighedGate y = under("may 5;fine 0-50;toll 9999;");
+        WeighedGate y = Gates.under("may 5;fine 0-50;toll 9999;");
         y.cart(1, 0, 3, 40, 1);
         y.cart(0, 0, 3, 5, 1);
         told(y, 3, 0, 1, 3, 3, 0, 0, -54);
     }
 
     private void pairs() {
-        WeighedGate x = under("may 1;fine off;toll 0;");
+        WeighedGate x = Gates.under("may 1;fine off;toll 0;");
         x.scale(2, 2);
         x.cart(1, 0, 5, 10, 0);
         x.cart(1, 0, 7, 20, 0);
@@ -215,7 +207,7 @@ final class WeighingTest {
     }
 
     private void pairsByRows() {
-        WeighedGate x = under(FREE);
+        WeighedGate x = Gates.free();
         x.cart(1, 0, 5, 10, 0);
         x.cart(1, 0, 5, 10, 0);
         x.cart(0, 0, 5, 1, 0);
@@ -235,7 +227,7 @@ final class WeighingTest {
         due.is("the third is left", 2, x.against(0, 0));
         due.is("the third is left", 3, x.against(0, 1));
         due.is("the third is left", -1, x.against(0, 4));
-        WeighedGate z = under(FREE);
+        WeighedGate z = Gates.free();
         z.scale(2, 1);
         z.cart(1, 0, 6, 10, 0);
         z.cart(1, 0, 5, 20, 0);
@@ -244,7 +236,7 @@ final class WeighingTest {
         due.is("the second has but one", 30, z.pairs(0, 1));
         due.is("so the first takes the other", 3, z.against(0, 0));
         due.is("the second has but one", 2, z.against(0, 1));
-        WeighedGate y = under(FREE);
+        WeighedGate y = Gates.free();
         for (int c = 0; c < 10; c++) {
             y.cart(c % 2, 0, 5, 10, 0);
         }
@@ -256,7 +248,7 @@ final class WeighingTest {
     }
 
     private void pairsThatCost() {
-        WeighedGate x = under("may 1;fine 50;toll 0;");
+        WeighedGate x = Gates.under("may 1;fine 50;toll 0;");
         x.cart(1, 0, 5, 10, 0);
         x.cart(0, 0, 5, 10, 0);
         x.cart(1, 0, 7, 20, 0);
@@ -266,9 +258,9 @@ final class WeighingTest {
         due.is("it costs", -1, x.against(0, 0));
         due.is("it brings 0", -1, x.against(0, 2));
         due.is("it brings 0", -1, x.against(0, 3));
-        due.is("of none", 0, under(FREE).pairs(0, 0));
-        due.is("of none", 0, under(FREE).pairs(0, 1));
-        WeighedGate y = under("may not in = 5;fine 0;toll 0;");
+        due.is("of none", 0, Gates.free().pairs(0, 0));
+        due.is("of none", 0, Gates.free().pairs(0, 1));
+        WeighedGate y = Gates.under("may not in = 5;fine 0;toll 0;");
         y.cart(1, 0, 5, 10, 0);
         y.cart(0, 0, 5, 10, 0);
         due.is("may not be", 0, y.pairs(0, 0));
@@ -276,7 +268,7 @@ final class WeighingTest {
     }
 
     private void best() {
-        WeighedGate x = under("may 1;fine 9;toll hour*11;");
+        WeighedGate x = Gates.under("may 1;fine 9;toll hour*11;");
         due.is("of none", 0, x.best(0, 0));
         due.is("of none", 0, x.best(0, 1));
         x.cart(0, 0, 5, 10, 0);
@@ -297,7 +289,7 @@ final class WeighingTest {
         due.is("hour ahead", -5, x.best(10, 2));
         due.is("what below", -7, x.best(0, -1));
         due.is("what above", -7, x.best(0, 2));
-        WeighedGate y = under("may 1;fine 9;toll 11;");
+        WeighedGate y = Gates.under("may 1;fine 9;toll 11;");
         y.cart(0, 0, 5, 10, 0);
         y.cart(1, 0, 5, 10, 0);
         due.is("0 is not above 0", 0, y.best(0, 0));
@@ -306,7 +298,7 @@ final class WeighingTest {
     }
 
     private void bestOfLikeOnes() {
-        WeighedGate x = under("may many = 2;fine 0;toll 0;");
+        WeighedGate x = Gates.under("may many = 2;fine 0;toll 0;");
         for (int c = 0; c < 10; c++) {
             x.cart(c < 5 ? 1 : 0, 0, 5, 10, 0);
         }
