@@ -98,6 +98,10 @@ final class DaySentences {
         Gates.out(x, 7, 1);
         s.of(24, "By DUSK: what 0 the HOUR at which CART k goes THROUGH (-1: at none),");
         s.row("goes(k, 0)", k -> x.goes(k, 0), 0, 9, 0, 9, -1, -5);
+        Due.read(x, "may 0;fine 0;toll 0;");
+        x.force(2);
+        s.row("goes(k, 0), if none may be", k -> x.goes(k, 0), -1, -1, -1, -1, -1, -5);
+        x.force(1);
         s.of(24, "1 CARTS (bits) that do at HOUR k.");
         s.row("goes(k, 1)", k -> x.goes(k, 1), 5, 0, 0, 0, 0, 0, 0, 0, 0, 10, -5);
         s.is("of no carts", 0, new WeighedGate().goes(9, 1));
@@ -214,6 +218,11 @@ final class DaySentences {
         z.set(0, 0, 9);
         s.is("its own, 9", 9, z.bring(0, 0));
         s.is("it stays", 9, z.cartTold(0, 0));
+        WeighedGate thirsty = Gates.under("may hour = 0;fine 0;toll 0;");
+        thirsty.cart(1, 2, 4, 50, 1);
+        Gates.out(thirsty, 5, 0);
+        s.is("none ahead of 0, at which it would have drunk by 0", 0, thirsty.bring(0, 1));
+        s.is("any of 0 .. 9", 9, thirsty.bring(0, 0));
     }
 
     private void promise27Refused() {

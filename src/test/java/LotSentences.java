@@ -28,6 +28,7 @@ final class LotSentences {
         promise34();
         promise35();
         promise35Again();
+        promise35OfInwardOnes();
         promise35OfWhatItKeeps();
     }
 
@@ -235,6 +236,21 @@ final class LotSentences {
             s.is("hour", 0, x.cartTold(0, 0));
             s.is("inward", 0, x.cartTold(0, 1));
         }
+    }
+
+    private void promise35OfInwardOnes() {
+        WeighedGate x = new WeighedGate();
+        for (int c = 0; c < 10; c++) {
+            x.cart(1 - c % 2, 4, 5, 5, 5);
+        }
+        x.image();
+        for (int c = 0; c < 10; c++) {
+            x.set(c, 1, c % 2);
+            x.set(c, 0, c);
+        }
+        x.back();
+        s.row("inward", c -> x.cartTold(c, 1), 1, 0, 1, 0, 1, 0, 1, 0, 1, 0);
+        s.row("comes", c -> x.cartTold(c, 0), 0, 0, 0, 0, 0, 0, 0, 0, 0, 0);
     }
 
     private void promise35OfWhatItKeeps() {

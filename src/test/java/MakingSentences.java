@@ -78,6 +78,7 @@ final class MakingSentences {
         s.is("any makes one", 1, new WeighedGate().own(99, 0));
         s.is("2, 3 or 4 make 1, too", 1, Gates.withStones(3).own(1, 0));
         s.is("2 or 3 beside 1", 2, Gates.withStones(1).own(3, 0));
+        s.is("all are made as it is", 1, Gates.withStones(1, 3, 9, 27).own(40, 0));
         s.of(17, "how many (1).");
         s.is("of none", 0, Gates.withStones(4).own(0, 1));
         s.is("one by one", 1, new WeighedGate().own(99, 1));
@@ -109,6 +110,10 @@ final class MakingSentences {
         s.is("no two at once", 0, Gates.withStones(7, 7).falsely(16));
         s.is("none of none", 0, new WeighedGate().falsely(1));
         s.is("the last alone", 4, Gates.withStones(40, 20, 5).falsely(6));
+        s.is("the first less the second, or the second alone", 3, Gates.withStones(40, 20, 5).falsely(21));
+        WeighedGate sold = Gates.withStones(1, 5, 20);
+        sold.sell();
+        s.is("20 less 5, but 20 was sold", 0, sold.falsely(15));
         s.of(18, "0: it can.");
         s.each("falsely", 0, x::falsely, 0, 1, 4, 5, 6);
         s.is("though a heavier one would make it, too", 0, Gates.withStones(5, 6).falsely(6));

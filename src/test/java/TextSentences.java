@@ -14,6 +14,7 @@ final class TextSentences {
         promise7();
         promise7Refused();
         promise8();
+        promise8BehindFaults();
         promise8Refused();
         promise9();
         promise10();
@@ -112,7 +113,31 @@ final class TextSentences {
         s.is("at 159", -259, Due.read(y, " ".repeat(159) + "?"));
         s.is("at 160", -260, Due.read(y, " ".repeat(160)));
         s.is("none came", 1, y.count(5));
-        s.is("a good one behind faults", 1, Due.read(y, Gates.FREE));
+        for (int k = 0; k < 2; k++) {
+            Due.write(y, "(".repeat(6));
+            s.is("six that are open, but no text", -100, y.text());
+        }
+        s.is("a good one behind faults", 1, Due.read(y, "may (((((1)))));fine 7;toll 8;"));
+    }
+
+    /** What a fault left half read, or on the tape, is nothing to the next text. */
+    private void promise8BehindFaults() {
+        s.of(8, "THE TAPE, which is empty then (by a FAULT, too), is a TEXT:");
+        WeighedGate x = new WeighedGate();
+        s.is("letters to the end", -100, Due.read(x, "z".repeat(160)));
+        s.is("a word", -106, Due.read(x, "may in"));
+        s.is("digits", -100, Due.read(x, "9".repeat(10)));
+        s.is("a number", -107, Due.read(x, "may 123"));
+        WeighedGate y = new WeighedGate();
+        s.is("a word at the end of all", -260, Due.read(y, " ".repeat(157) + "may"));
+        for (int k = 0; k < 2; k++) {
+            s.is("half a text", -258, Due.read(y, "may 1" + "+1".repeat(76) + "+;"));
+        }
+        s.is("a whole one", 1, Due.read(y, "may 0;fine 1" + "+1".repeat(10) + ";toll 5;"));
+        y.force(1);
+        s.is("its may", 0, y.asks(0, 0, 0, 0));
+        s.is("its fine", 11, y.asks(1, 0, 0, 0));
+        s.is("its toll", 5, y.asks(2, 0, 0, 0));
     }
 
     private void promise8Refused() {
@@ -213,8 +238,9 @@ final class TextSentences {
 
     /** What an expression is, by in 12, out 34, off 5, hour 6, many 7, stones 8. */
     private void says(int value, String expression) {
-        WeighedGate x = Gates.under("may 0;fine " + expression + ";toll 0;");
+        WeighedGate x = Gates.under("may " + expression + ";fine " + expression + ";toll 0;");
         s.is(expression, value, x.asks(1, 12034, 56, 78));
+        s.is("whether " + expression, value == 0 ? 0 : 1, x.asks(0, 12034, 56, 78));
     }
 
     private void tokens() {
@@ -372,14 +398,29 @@ final class TextSentences {
         s.of(Sentences.TERMS, "of a WORD that is neither KEY nor NAME");
         fault(0, "mai 1" + BEHIND);
         faultOf(4, "x");
-        faultOf(6, "1 orr 1");
         faultOf(6, "1 nand 1");
         fault(20, Gates.FREE + "end");
+        for (String name : new String[] {"in", "out", "off", "hour", "many", "stones", "not"}) {
+            misspelt(4, "may ", name, " 1" + BEHIND);
+        }
+        misspelt(6, "may 1 ", "or", " 1" + BEHIND);
+        misspelt(6, "may 1 ", "and", " 1" + BEHIND);
+        misspelt(0, "", "may", " 1" + BEHIND);
+        misspelt(6, "may 1;", "fine", " 0;toll 0;");
+        misspelt(13, "may 1;fine 0;", "toll", " 0;");
         s.of(Sentences.TERMS, "a NUMBER that is too long");
         faultOf(8, "1 + 12345");
         faultOf(4, "9".repeat(40));
         fault(20, Gates.FREE + "12345");
         good("1234");
+    }
+
+    /** A word with another first or last letter, without its last one, with one more. */
+    private void misspelt(int place, String ahead, String word, String behind) {
+        String but = word.substring(0, word.length() - 1);
+        for (String other : new String[] {"x" + word.substring(1), but + "x", but, word + "x"}) {
+            fault(place, ahead + other + behind);
+        }
     }
 
     private void openOnes() {

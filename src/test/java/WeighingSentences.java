@@ -180,6 +180,16 @@ final class WeighingSentences {
         Gates.out(y, 5, 1);
         Gates.in(y, 5, 10);
         s.row("the least for the first", c -> y.against(0, c), 1, 0, 3, 2);
+        WeighedGate ten = Gates.free();
+        for (int c = 0; c < 10; c++) {
+            ten.cart(c < 5 ? 1 : 0, 0, 5, 10, 0);
+        }
+        s.row("each of five with the least that is left", c -> ten.against(0, c), 5, 6, 7, 8, 9, 0, 1, 2, 3, 4);
+        WeighedGate three = Gates.free();
+        Gates.in(three, 5, 10);
+        Gates.out(three, 5, 1);
+        Gates.out(three, 5, 1);
+        s.row("the lesser of two", c -> three.against(0, c), 1, 0, -1);
         WeighedGate later = Gates.free();
         later.scale(2, 1);
         Gates.in(later, 6, 10);
