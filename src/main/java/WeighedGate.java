@@ -1077,12 +1077,16 @@ public final class WeighedGate {
 
         /** Reads what is joined by the signs of a level, of parts of the next one. */
         private void readLevel(int level) {
-            if (level == LEVEL_ONE) {
-                readOne();
+            if (level == LEVEL_COMPARED && token == TOKEN_NOT) {
+                readBehind(level, TOKEN_NOT);
                 return;
             }
-            if (level == LEVEL_COMPARED && token == TOKEN_NOT) {
-                readBehind(LEVEL_COMPARED, TOKEN_NOT);
+            if (level == LEVEL_ONE && token == TOKEN_MINUS) {
+                readBehind(level, TOKEN_NEGATE);
+                return;
+            }
+            if (level == LEVEL_ONE) {
+                readOne();
                 return;
             }
             readLevel(level + 1);
@@ -1116,8 +1120,6 @@ public final class WeighedGate {
             if (token >= -NAMES) {
                 into.add(token);
                 advance();
-            } else if (token == TOKEN_MINUS) {
-                readBehind(LEVEL_ONE, TOKEN_NEGATE);
             } else if (token == TOKEN_OPEN) {
                 if (opens()) {
                     readLevel(LEVEL_OR);

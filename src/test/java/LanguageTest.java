@@ -1,5 +1,4 @@
 import java.io.IOException;
-import java.lang.reflect.Constructor;
 import java.lang.reflect.Field;
 import java.lang.reflect.Method;
 import java.lang.reflect.Modifier;
@@ -15,17 +14,6 @@ import java.util.regex.Pattern;
 
 /** What can be seen of ../shared/LANGUAGE.md from the file and from the class that it becomes. */
 final class LanguageTest {
-    private static final String[] FACE = {
-        "int scale(int,int)", "int stone(int)", "int sell()", "int stoneTold(int)", "int count(int)",
-        "int feed(int,int,int,int,int,int)", "int text()", "int force(int)", "int asks(int,int,int,int)",
-        "int cart(int,int,int,int,int)", "int set(int,int,int)", "int cartTold(int,int)", "int at(int,int,int)",
-        "int make(int)", "int makings(int,int)", "int own(int,int)", "int falsely(int)", "int scales(int,int,int)",
-        "int pairs(int,int)", "int against(int,int)", "int best(int,int)", "int dusk(int,int)", "int goes(int,int)",
-        "int hold(int)", "int gain(int)", "int bring(int,int)", "int judge(int)", "int laws(int)", "int film(int)",
-        "int lost(int,int,int,int)", "int drawn(int,int)", "long odds(int,int,int,int)", "int image()", "int back()",
-        "int sheet(int,int,int)", "int cell(int,int,int)", "int copy(int,int,int,int,int)",
-        "int cartsBy(int,int,int,int)", "int taken(int,int)",
-    };
     private static final String[] FORBIDDEN = {
         "\\bthrow\\b", "\\btry\\b", "\\bcatch\\b", "\\bsynchronized\\b", "\\bassert\\b", "\\bimport\\b", "\\bpackage\\b",
         "->", "::", "\\bstatic\\s*\\{", "\\w+Exact\\b", "\\bequals\\b", "\\bhashCode\\b", "\\btoString\\b", "\\bprotected\\b",
@@ -38,53 +26,34 @@ final class LanguageTest {
 
     public static void main(String[] args) throws IOException {
         LanguageTest test = new LanguageTest();
-        test.face();
-        test.constants();
+        test.names();
+        test.fields();
         test.inside();
         test.source();
         test.due.end();
     }
 
-    private static String told(Method method) {
-        StringBuilder types = new StringBuilder();
-        for (Class<?> type : method.getParameterTypes()) {
-            types.append(types.length() == 0 ? "" : ",").append(type.getSimpleName());
-        }
-        return method.getReturnType().getSimpleName() + " " + method.getName() + "(" + types + ")";
-    }
-
-    private void face() {
-        Set<String> found = new TreeSet<>();
+    private void names() {
         for (Method method : WeighedGate.class.getDeclaredMethods()) {
             if (Modifier.isPublic(method.getModifiers())) {
-                found.add(told(method));
                 publicNames.add(method.getName());
                 due.holds(method + " is no static one", !Modifier.isStatic(method.getModifiers()));
-            } else {
-                due.holds(method + " is private", Modifier.isPrivate(method.getModifiers()));
             }
         }
-        due.holds("the face", found.equals(new TreeSet<>(List.of(FACE))));
-        due.holds("a public final class", WeighedGate.class.getModifiers() == (Modifier.PUBLIC | Modifier.FINAL));
-        Constructor<?>[] constructors = WeighedGate.class.getDeclaredConstructors();
-        due.is("constructors", 1, constructors.length);
-        due.is("its parameters", 0, constructors[0].getParameterCount());
-        due.holds("it is public", Modifier.isPublic(constructors[0].getModifiers()));
+        for (Method method : WeighedGate.class.getDeclaredMethods()) {
+            if (!Modifier.isPublic(method.getModifiers())) {
+                due.holds(method + " bears a name of its own", !publicNames.contains(method.getName()));
+            }
+        }
     }
 
-    private void constants() {
-        Set<String> open = new TreeSet<>();
+    private void fields() {
         int own = 0;
         for (Field field : WeighedGate.class.getDeclaredFields()) {
             int modifiers = field.getModifiers();
-            if (!Modifier.isPrivate(modifiers)) {
-                open.add(field.getType() + " " + field.getName());
-                due.holds(field + " is a public constant", modifiers == (Modifier.PUBLIC | Modifier.STATIC | Modifier.FINAL));
-            }
             due.holds(field + " is final, if static", !Modifier.isStatic(modifiers) || Modifier.isFinal(modifiers));
             own += Modifier.isStatic(modifiers) ? 0 : 1;
         }
-        due.holds("the constants", open.equals(Set.of("int NONE", "int BAD", "int STATE", "int FULL", "long NO")));
         due.holds("not too many fields", own <= 20);
     }
 

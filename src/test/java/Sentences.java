@@ -11,8 +11,8 @@ import java.util.regex.Pattern;
 
 /**
  * The document's sentences. A test names a promise and one of its sentences, word for word, and then asks what
- * would not be answered so if that sentence were broken. At the end every word of the terms and of the forty
- * promises must have been named.
+ * would not be answered so if that sentence were broken. At the end every word of "What it is", of the terms and of
+ * the forty promises must have been named.
  */
 final class Sentences {
     static final int TERMS = 0;
@@ -100,7 +100,7 @@ final class Sentences {
 
     void end() {
         endOne();
-        for (int promise = TERMS; promise <= PROMISES; promise++) {
+        for (int promise = WHAT_IT_IS; promise <= PROMISES; promise++) {
             Section section = sections.get(promise);
             due.is("words of promise " + promise + " that no test names: " + unnamed(section), 0,
                 section == null ? 1 : unnamed(section).length());

@@ -7,6 +7,7 @@ final class SentencesTest {
 
     public static void main(String[] args) throws IOException {
         Sentences s = new Sentences(Path.of("../shared/DOC.md"));
+        new OverviewSentences(s).ask();
         new TermsSentences(s).ask();
         new ScaleSentences(s).ask();
         new TextSentences(s).ask();

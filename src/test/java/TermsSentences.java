@@ -23,7 +23,6 @@ final class TermsSentences {
         answersOfMinusOne();
         refusalsChangeNothing();
         askedChangesNothing();
-        fiveHundredAndTwelve();
     }
 
     private void scale() {
@@ -241,19 +240,5 @@ final class TermsSentences {
         asked("drawn", x -> x.drawn(99999, 0));
         asked("odds", x -> x.odds(0, 99999, 10, 0));
         asked("taken", x -> x.taken(0, 6));
-    }
-
-    private void fiveHundredAndTwelve() {
-        s.of(Sentences.WHAT_IT_IS, "An object is used for at most 512 calls after it has been made;");
-        WeighedGate x = Gates.free();
-        int fed = Gates.FREE.length() + 2;
-        for (int calls = fed; calls < 507; calls++) {
-            x.scale(2, calls % 10);
-        }
-        x.scale(2, 0);
-        Gates.in(x, 5, 5);
-        Gates.out(x, 5, 5);
-        s.is("the 511th call", 5, x.at(0, 9, 0));
-        s.is("the 512th call", 10, x.dusk(10, 0));
     }
 }
